@@ -927,8 +927,6 @@ public final class ConnectorRouter {
 
         /** Joins the nodes; no step leads to or from a blocked point, so those need no mark of their own. */
         void joinNodes(Canvas canvas) {
-            Arrays.fill(opensRight, false);
-            Arrays.fill(opensDown, false);
             for (int row = 0; row < rows; row++) {
                 for (int column = 0; column < columns; column++) {
                     int x = xs[column];
@@ -963,7 +961,7 @@ public final class ConnectorRouter {
                 case Direction.DOWN:
                     return opensDown[node] ? node + LINES : NOT_THERE;
                 default:
-                    // From the last column nothing opens to the right, so this does not leave the row.
+                    // Nothing ever opens to the right from the last of LINES columns, so the row is not left.
                     return node >= 1 && opensRight[node - 1] ? node - 1 : NOT_THERE;
             }
         }
@@ -987,7 +985,7 @@ public final class ConnectorRouter {
      * States that wait, in a ring of lists, one for each cost. The costs that wait at the same time differ
      * by less than the ring's size: a step costs at most 97 for its length and 50 for a bend.
      */
-    private static final class Queue {
+    private static final class WaitingStates {
         private static final int RING = 256;
 
         private int reached;
@@ -995,7 +993,7 @@ public final class ConnectorRouter {
         private final int[] next;
         private final int[] previous;
 
-        Queue(int states) {
+        WaitingStates(int states) {
             next = new int[states];
             previous = new int[states];
         }
@@ -1055,7 +1053,7 @@ public final class ConnectorRouter {
         private static final int FAR = 1000000;
 
         private final Grid grid = new Grid();
-        private final Queue queue = new Queue(STATES);
+        private final WaitingStates waiting = new WaitingStates(STATES);
         private final int[] rests = new int[STATES];
         private int penalty;
         private int start;
@@ -1074,7 +1072,7 @@ public final class ConnectorRouter {
                 offer(stateOf(goal, i), restAtGoal(i));
             }
             for (int i = 0; i < STATES; i++) {
-                int state = queue.takeCheapest();
+                int state = waiting.takeCheapest();
                 if (state == NOT_THERE || state == startState) {
                     break;
                 }
@@ -1099,7 +1097,7 @@ public final class ConnectorRouter {
             start = grid.nodeAt(startX, startY);
             goal = grid.nodeAt(goalX, goalY);
             Arrays.fill(rests, FAR);
-            queue.clear();
+            waiting.clear();
         }
 
         private static int stateOf(int node, int direction) {
@@ -1119,10 +1117,10 @@ public final class ConnectorRouter {
                 return;
             }
             if (rests[state] < FAR) {
-                queue.remove(state, rests[state]);
+                waiting.remove(state, rests[state]);
             }
             rests[state] = rest;
-            queue.put(state, rest);
+            waiting.put(state, rest);
         }
 
         /** Offers what is known of a state to all states from which one step leads to it. */
@@ -1235,14 +1233,14 @@ public final class ConnectorRouter {
             int line = asked.lineOf(segment);
             for (int i = 0; i < canvas.connectors; i++) {
                 Route route = canvas.routes[i];
-                for (int j = 1; route != null && route.isInner(j); j++) {
-                    if (route.isLevel(j) != isLevel || route.lineOf(j) != line) {
-                        continue;
+                if (route == null) {
+                    continue;
+                }
+                for (int j = 1; j < route.segments() - 1; j++) {
+                    if (route.isLevel(j) == isLevel && route.lineOf(j) == line) {
+                        own = i == connector && j == segment ? size : own;
+                        add(route, j);
                     }
-                    if (i == connector && j == segment) {
-                        own = size;
-                    }
-                    add(route, j);
                 }
             }
         }
