@@ -6,15 +6,19 @@ public final class AnyArguments {
         0, 1, 2, 3, 4, 5, 8, 10, 50, 51, 97, 98, 99, 100, 120, 255, 256, 1 << 30, Integer.MAX_VALUE};
 
     private static int wrong = 0;
+    // How many calls the latest round made; an object is good for 512.
+    private static int made = 1;
 
     public static void main(String[] args) {
-        for (int seed = 1; seed <= 300; seed++) {
+        for (int seed = 1; seed <= 900; seed++) {
             Random random = new Random(seed);
             ConnectorRouter x = new ConnectorRouter();
-            for (int i = 0; i < 512; i++) {
+            // A round makes at most 19 calls: digest() before and behind, and up to 17 that type a command.
+            for (int calls = 0; calls + 19 <= 512; calls += made + 2) {
                 int method = random.nextInt(28);
                 long before = x.digest();
                 long answer;
+                made = 1;
                 try {
                     answer = call(x, method, random);
                 } catch (RuntimeException e) {
@@ -92,6 +96,7 @@ public final class AnyArguments {
         for (int i = 0; i < part.length(); i++) {
             length = x.type(part.charAt(i));
         }
+        made = part.length() + 1;
         return length;
     }
 }

@@ -719,7 +719,6 @@ public final class PromiseTests {
 
     private static void textFault() {
         promise = 26;
-        ConnectorRouter x = new ConnectorRouter();
         String[] texts = {"", "   ", "all", " all ", "all;", "all; ", ";", "all;;all", "al", "alll", "all 1",
             "all1", "al 1", "bo", "box", "box 1 2 3", "box 1 2 3 ", "box 1 2 3 4", "box1 2 3 4", "box 1 2 3 4 5",
             "box 1 2 3 4;all", "box 1 2 3 4all", "box 1234 2 3 4", "box 1 2 3 1234", "box 001 2 3 4",
@@ -734,12 +733,15 @@ public final class PromiseTests {
             NONE, 5, 6, 11, NONE, 8, NONE,
             NONE, 3, 4, 4, 4, 0, 8,
             8, 0, 0, 4, 7};
+        // A new object for each text, as an object is good for 512 calls.
         for (int i = 0; i < texts.length; i++) {
+            ConnectorRouter x = new ConnectorRouter();
             say(x, texts[i]);
             due("textFault() of '" + texts[i] + "'", x.textFault(), faults[i]);
         }
         // Bytes that are neighbours of letters and digits, and bytes above 127.
         for (int code : new int[] {'a' - 1, 'z' + 1, '0' - 1, '9' + 1, 0, 9, 255, 200}) {
+            ConnectorRouter x = new ConnectorRouter();
             say(x, "all");
             x.type(code);
             due("textFault() with byte " + code, x.textFault(), 3);

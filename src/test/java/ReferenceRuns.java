@@ -846,7 +846,8 @@ public final class ReferenceRuns {
             boolean isTight = seed % 2 == 0;
             room = isTight ? 12 + below(20) : 100;
             int size = isTight ? 1 + below(8) : 10 + below(40);
-            while (calls < 480 && wrong == 0) {
+            // A round makes at most 34 calls from here on, which keeps to the 512 that an object is good for.
+            while (calls < 478 && wrong == 0) {
                 change(size);
                 ask();
                 same("digest()", x.digest(), m.digest());
