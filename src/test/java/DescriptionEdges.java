@@ -20,6 +20,8 @@ public final class DescriptionEdges {
         differentPorts();
         gridLines();
         gridAtTheRim();
+        gridOfEightBoxes();
+        gridLinesThatCoincide();
         bends();
         sameOuterPoints();
         penaltyRange();
@@ -38,6 +40,8 @@ public final class DescriptionEdges {
         collisions();
         collisionsOfInnerOnes();
         bundleByReach();
+        bundlesOfOneLine();
+        bundlesOneByOne();
         pulls();
         equalPulls();
         places();
@@ -162,7 +166,8 @@ public final class DescriptionEdges {
     }
 
     private static void gapAtCorners() {
-        Checks.sentence("x1 of one is at least x2 of the other plus 2, or y1 of one is at least y2 of the other plus 2");
+        Checks.sentence(
+            "x1 of one is at least x2 of the other plus 2, or y1 of one is at least y2 of the other plus 2");
         int[][] nearX = {{51, 60}, {30, 39}};
         int[][] farX = {{52, 60}, {30, 38}};
         for (int i = 0; i < 2; i++) {
@@ -311,7 +316,8 @@ public final class DescriptionEdges {
     // ---- grid, ways
 
     private static void gridLines() {
-        Checks.sentence("The grid of a connector consists of the lines at the distance 1 and through its outer points");
+        Checks.sentence(
+            "The grid of a connector consists of the lines at the distance 1 and through its outer points");
         // A way turns on lines of the grid alone: x = 15 and 29 here, not between them.
         ConnectorRouter x = Checks.withBox(10, 10, 14, 14);
         x.addBox(30, 30, 34, 34);
@@ -352,8 +358,65 @@ public final class DescriptionEdges {
         Checks.dueRoute(x, 3, "M2,50H1V98H98V50H97");
     }
 
+    /** Boxes of which no two have a line in common, in two rows that are shifted against one another. */
+    private static ConnectorRouter eight() {
+        ConnectorRouter x = new ConnectorRouter();
+        for (int i = 0; i < 8; i++) {
+            Checks.due("addBox", x.addBox(4 + 11 * i, i % 2 == 0 ? 10 + 3 * i : 50 + 3 * i, 10 + 11 * i,
+                i % 2 == 0 ? 30 + 3 * i : 70 + 3 * i), i);
+        }
+        return x;
+    }
+
+    private static void gridOfEightBoxes() {
+        Checks.sentence(
+            "for each box the lines x1 - 1, x2 + 1, y1 - 1 and y2 + 1; and those through its two outer points");
+        ConnectorRouter x = eight();
+        x.link(0, 2, 2, 7, 0, 2);
+        x.link(7, 0, 2, 0, 2, 2);
+        x.link(0, 0, 3, 7, 2, 3);
+        x.link(6, 1, 5, 1, 3, 6);
+        // Between the rows there are the lines y = 49 and 52; the first of equal ways takes one or the other.
+        int[] costs = {118 + 20, 118 + 20, 162 + 40, 91 + 40};
+        String[] routes = {"M6,30V49H83V71", "M83,71V49H6V30", "M7,10V9H80V92H84V91", "M76,33H77V52H14V59H15"};
+        for (int round = 0; round < 2; round++) {
+            for (int i = 0; i < 4; i++) {
+                Checks.due("route(" + i + ")", x.route(i), costs[i]);
+                Checks.dueRoute(x, i, routes[i]);
+            }
+            // There and back again: nothing of the grids before is left.
+            for (int i = 0; i < 8; i++) {
+                x.moveBox(i, 1, 1);
+                x.best(i % 4);
+                x.moveBox(i, -1, -1);
+            }
+        }
+    }
+
+    private static void gridLinesThatCoincide() {
+        Checks.sentence("The grid of a connector consists of these lines (a line of two boxes is one line)");
+        ConnectorRouter x = Checks.withBox(10, 10, 14, 14);
+        x.addBox(10, 30, 14, 34);
+        x.addBox(30, 10, 34, 14);
+        x.setPenalty(0);
+        x.link(0, 3, 2, 1, 3, 2);
+        x.link(1, 3, 2, 0, 3, 2);
+        x.link(0, 0, 2, 2, 0, 2);
+        x.link(2, 0, 2, 0, 0, 2);
+        x.link(0, 1, 2, 1, 1, 2);
+        x.link(0, 2, 2, 2, 2, 2);
+        String[] routes = {"M10,12H9V32H10", "M10,32H9V12H10", "M12,10V9H32V10", "M32,10V9H12V10",
+            "M14,12H15V32H14", "M12,14V15H32V14"};
+        Checks.due("routeAll()", x.routeAll(), 6);
+        for (int i = 0; i < routes.length; i++) {
+            Checks.due("measure(" + i + ", 0)", x.measure(i, 0), 22);
+            Checks.dueRoute(x, i, routes[i]);
+        }
+    }
+
     private static void bends() {
-        Checks.sentence("Its bends are the steps whose direction is not that of the step before, and one more at the end");
+        Checks.sentence(
+            "Its bends are the steps whose direction is not that of the step before, and one more at the end");
         ConnectorRouter x = Checks.withBox(10, 10, 20, 20);
         x.addBox(60, 10, 70, 20);
         x.addBox(60, 60, 70, 70);
@@ -380,7 +443,8 @@ public final class DescriptionEdges {
     }
 
     private static void sameOuterPoints() {
-        Checks.sentence("If both outer points are the same, a way without steps has no bends if the sides are opposite");
+        Checks.sentence(
+            "If both outer points are the same, a way without steps has no bends if the sides are opposite");
         for (int penalty : new int[] {0, 10, 50}) {
             ConnectorRouter x = Checks.withBox(10, 10, 20, 20);
             x.addBox(22, 10, 30, 20);
@@ -419,7 +483,8 @@ public final class DescriptionEdges {
     }
 
     private static void leastCost() {
-        Checks.sentence("The best way is the one with the least cost; of several the one that is lexicographically first");
+        Checks.sentence(
+            "The best way is the one with the least cost; of several the one that is lexicographically first");
         // 30 + 5 bends or 44 + 3 bends: equal for 7, and up comes before down.
         ConnectorRouter x = Checks.withBox(5, 10, 15, 25);
         x.addBox(20, 10, 40, 15);
@@ -787,7 +852,19 @@ public final class DescriptionEdges {
         x.moveBox(0, 0, 30);
         level(x, 12, 18, 9);
         Checks.due("shared(0, 1)", x.shared(0, 1), 6);
-        Checks.due("lane(0, 1, 2) with a first segment on it", x.lane(0, 1, 2), 1);
+        Checks.due("lane(0, 1, 2) with a first and last segment on it", x.lane(0, 1, 2), 1);
+        // Routes with a corner, which begin or end on the line of the inner segment.
+        int low = x.addBox(40, 20, 44, 24);
+        for (int i = 0; i < 2; i++) {
+            int c = i == 0 ? x.link(1, 1, 2, low, 0, 2) : x.link(low, 0, 2, 1, 1, 2);
+            x.moveBox(2, 50, 50);
+            x.route(c);
+            Checks.dueRoute(x, c, i == 0 ? "M12,9H42V20" : "M42,20V9H12");
+            x.moveBox(2, -50, -50);
+            Checks.due("shared(0, " + c + ")", x.shared(0, c), 8);
+            Checks.due("lane(0, 1, 2) with a first or last segment on it", x.lane(0, 1, 2), 1);
+            Checks.due("lane(0, 1, 3) with a first or last segment on it", x.lane(0, 1, 3), 180);
+        }
         // Horizontal segments with y = 9 and vertical ones with x = 9: two bundles, not one of four.
         ConnectorRouter y = Checks.withBox(10, 10, 20, 20);
         y.link(0, 0, 0, 0, 3, 0);
@@ -823,6 +900,51 @@ public final class DescriptionEdges {
         dueLanes(z, new int[] {0, 1, 2, 2}, new int[] {3, 3, 3, 3});
     }
 
+    private static void bundlesOfOneLine() {
+        Checks.sentence("A bundle is a set of inner segments, as large as possible (but no larger)");
+        // Three segments above, and two below that begin where the lowest of them ends.
+        ConnectorRouter x = columns();
+        down(x, 0, 10, 4, 48);
+        down(x, 0, 20, 4, 44);
+        down(x, 1, 48, 5, 70);
+        down(x, 0, 30, 4, 40);
+        down(x, 1, 50, 5, 80);
+        dueLanes(x, new int[] {0, 1, 0, 2, 1}, new int[] {3, 3, 2, 3, 2});
+        // Asked for in the other order.
+        for (int i = 4; i >= 0; i--) {
+            Checks.due("lane(" + i + ", 1, 2)", x.lane(i, 1, 2), i == 2 || i == 4 ? 2 : 3);
+        }
+        // One more joins both.
+        down(x, 1, 47, 5, 75);
+        dueLanes(x, new int[] {0, 1, 0, 2, 1, 2}, new int[] {3, 3, 3, 3, 3, 3});
+    }
+
+    private static void bundlesOneByOne() {
+        Checks.sentence("A bundle is a set of inner segments (and is made anew for each call)");
+        // Four long routes on top of the box, and below it a short one apart from two others.
+        ConnectorRouter x = Checks.withBox(10, 10, 40, 20);
+        for (int i = 0; i < 4; i++) {
+            x.link(0, 0, i, 0, 0, 30 - i);
+        }
+        x.link(0, 2, 0, 0, 2, 5);
+        x.link(0, 2, 10, 0, 2, 20);
+        x.link(0, 2, 12, 0, 2, 18);
+        x.routeAll();
+        int[] lanes = {0, 1, 2, 3, 0, 0, 1};
+        int[] lanesOfBundles = {4, 4, 4, 4, 1, 2, 2};
+        for (int above = 0; above < 4; above++) {
+            for (int below = 4; below < 7; below++) {
+                Checks.due("lane(" + above + ", 1, 2)", x.lane(above, 1, 2), lanesOfBundles[above]);
+                Checks.due("lane(" + below + ", 1, 2)", x.lane(below, 1, 2), lanesOfBundles[below]);
+                Checks.due("lane(" + above + ", 1, 1)", x.lane(above, 1, 1), lanes[above]);
+                Checks.due("lane(" + below + ", 1, 1)", x.lane(below, 1, 1), lanes[below]);
+            }
+        }
+        x.drop(0);
+        Checks.due("lane(0, 1, 2) with one less", x.lane(0, 1, 2), 3);
+        Checks.due("lane(3, 1, 2) below", x.lane(3, 1, 2), 1);
+    }
+
     private static void pulls() {
         Checks.sentence("The segments of a bundle are gone through by ascending pulls");
         ConnectorRouter x = columns();
@@ -834,6 +956,12 @@ public final class DescriptionEdges {
             Checks.due("lane(" + i + ", 1, 0)", x.lane(i, 1, 0), pulls[i]);
         }
         dueLanes(x, new int[] {2, 1, 0}, new int[] {3, 3, 3});
+        // The first and the last one are reached from one another by the second one alone.
+        ConnectorRouter w = columns();
+        down(w, 3, 88, 5, 70);
+        down(w, 1, 50, 5, 80);
+        down(w, 2, 62, 5, 66);
+        dueLanes(w, new int[] {2, 1, 0}, new int[] {3, 3, 3});
         // A pull above 0: both neighbours lie to the right of the line.
         ConnectorRouter y = Checks.withBox(40, 10, 50, 20);
         y.addBox(30, 40, 36, 60);

@@ -128,6 +128,18 @@ public final class PromiseEdges {
         Checks.dueRoute(x, 0, "M20,15H40");
         Checks.due("moveBox of the ports of all", x.moveBox(0, 0, 5), 3);
         Checks.due("count(3) counts the one without a route", x.count(3), 4);
+        // The first, the middle and the last one of three without a route.
+        for (int i = 0; i < 3; i++) {
+            ConnectorRouter y = Checks.crowded();
+            while (y.drop(3) >= 3) {
+                Checks.due("count(4)", y.count(4), 0);
+            }
+            y.route((i + 1) % 3);
+            y.route((i + 2) % 3);
+            Checks.due("moveBox without a route of " + i, y.moveBox(0, 0, 1), 2);
+            Checks.due("count(3)", y.count(3), 3);
+            Checks.due("moveBox back without a route of " + i, y.moveBox(0, 0, -1), 0);
+        }
     }
 
     private static void moveBoxFar() {
@@ -226,6 +238,20 @@ public final class PromiseEdges {
         }
         Checks.due("drop(0) of none", x.drop(0), BAD_INDEX);
         Checks.due("count(1)", x.count(1), 0);
+        // The first of ten: all nine behind it move up, with all that they have.
+        ConnectorRouter y = Checks.withBox(10, 10, 30, 30);
+        y.addBox(50, 50, 70, 70);
+        for (int i = 0; i < 10; i++) {
+            y.link(i % 2, i % 4, i, (i + 1) % 2, (i + 1) % 4, 20 - i);
+        }
+        Checks.due("drop of the first of ten", y.drop(0), 9);
+        for (int i = 1; i < 10; i++) {
+            int[] ports = {i % 2, i % 4, i, (i + 1) % 2, (i + 1) % 4, 20 - i};
+            for (int what = 0; what < 6; what++) {
+                Checks.due("connector(" + (i - 1) + ", " + what + ")", y.connector(i - 1, what), ports[what]);
+            }
+        }
+        Checks.due("connector(9, 0)", y.connector(9, 0), BAD_INDEX);
     }
 
     private static void dropWithRoutes() {

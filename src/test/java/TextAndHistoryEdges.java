@@ -90,8 +90,15 @@ public final class TextAndHistoryEdges {
             fault("all;" + command, NONE);
             fault(word.substring(1) + rest, 0);
             fault(word.substring(0, end - 1) + rest, 0);
-            fault(word + "s" + rest, 0);
-            fault("a" + word + rest, 0);
+            for (char letter = 'a'; letter <= 'z'; letter++) {
+                fault(word + letter + rest, 0);
+                fault(letter + word + rest, 0);
+            }
+            for (int i = 0; i < end; i++) {
+                // A neighbour of a letter in its place: no letter may go unread.
+                char other = (char) (word.charAt(i) == 'z' ? 'y' : word.charAt(i) + 1);
+                fault(word.substring(0, i) + other + word.substring(i + 1) + rest, 0);
+            }
             fault("all; " + word + word + rest, 5);
             fault(word.toUpperCase() + rest, 0);
             fault("all;" + word.substring(0, end - 1) + "Z" + rest, 4);
