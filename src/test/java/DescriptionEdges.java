@@ -44,6 +44,7 @@ public final class DescriptionEdges {
         bundlesOneByOne();
         pulls();
         equalPulls();
+        equalPullsOfOneRoute();
         places();
         Checks.finish();
     }
@@ -986,6 +987,33 @@ public final class DescriptionEdges {
         // Their numbers change when one before them is dropped, and with them the order stays.
         x.drop(0);
         dueLanes(x, new int[] {0, 1}, new int[] {2, 2});
+    }
+
+    private static void equalPullsOfOneRoute() {
+        Checks.sentence("Two inner segments (of different routes, or of the same one); equal pulls by their numbers");
+        // Around the box in the middle, a route without penalty leaves the line y = 20 and comes back to it.
+        ConnectorRouter x = Checks.withBox(10, 10, 14, 19);
+        x.addBox(40, 10, 44, 19);
+        x.addBox(25, 15, 29, 25);
+        x.setPenalty(0);
+        x.link(0, 2, 2, 1, 2, 2);
+        x.route(0);
+        Checks.dueRoute(x, 0, "M12,19V20H15V14H39V20H42V19");
+        Checks.due("lane(0, 1, 2)", x.lane(0, 1, 2), 1);
+        Checks.due("lane(0, 5, 2)", x.lane(0, 5, 2), 1);
+        // A second route goes straight on, and by it each of the two is reached from the other.
+        x.moveBox(2, 0, 40);
+        x.link(0, 2, 2, 1, 2, 2);
+        x.route(1);
+        Checks.dueRoute(x, 1, "M12,19V20H42V19");
+        int[][] segments = {{0, 1, 19 + 14 - 40, 0}, {0, 5, 14 + 19 - 40, 0}, {1, 1, 19 + 19 - 40, 1}};
+        for (int[] s : segments) {
+            Checks.due("pull of " + s[0] + ", " + s[1], x.lane(s[0], s[1], 0), s[2]);
+            Checks.due("lane of " + s[0] + ", " + s[1], x.lane(s[0], s[1], 1), s[3]);
+            Checks.due("lanes of " + s[0] + ", " + s[1], x.lane(s[0], s[1], 2), 2);
+            Checks.due("place of " + s[0] + ", " + s[1], x.lane(s[0], s[1], 3), 400 + (2 * s[3] - 1) * 4);
+        }
+        Checks.due("lanes of the part that is elsewhere", x.lane(0, 3, 2), 1);
     }
 
     private static void places() {
