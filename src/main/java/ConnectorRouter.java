@@ -1236,7 +1236,7 @@ public final class ConnectorRouter {
                 if (route == null) {
                     continue;
                 }
-                for (int j = 1; j < route.segments() - 1; j++) {
+                for (int j = 1; j < route.segments() - 1 && size < CAPACITY; j++) {
                     if (route.isLevel(j) == isLevel && route.lineOf(j) == line) {
                         own = i == connector && j == segment ? size : own;
                         add(route, j);
@@ -1245,15 +1245,14 @@ public final class ConnectorRouter {
             }
         }
 
+        /** Adds a segment; there must be room for it. */
         private void add(Route route, int segment) {
-            if (size < CAPACITY) {
-                starts[size] = route.startOf(segment);
-                ends[size] = route.endOf(segment);
-                pulls[size] = route.pullOf(segment);
-                lanes[size] = NOT_THERE;
-                reached[size] = false;
-                size++;
-            }
+            starts[size] = route.startOf(segment);
+            ends[size] = route.endOf(segment);
+            pulls[size] = route.pullOf(segment);
+            lanes[size] = NOT_THERE;
+            reached[size] = false;
+            size++;
         }
 
         private boolean collide(int one, int other) {

@@ -42,6 +42,7 @@ public final class DescriptionEdges {
         bundleByReach();
         bundlesOfOneLine();
         bundlesOneByOne();
+        bundlesOfFortySegments();
         pulls();
         equalPulls();
         equalPullsOfOneRoute();
@@ -944,6 +945,33 @@ public final class DescriptionEdges {
         x.drop(0);
         Checks.due("lane(0, 1, 2) with one less", x.lane(0, 1, 2), 3);
         Checks.due("lane(3, 1, 2) below", x.lane(3, 1, 2), 1);
+    }
+
+    private static void bundlesOfFortySegments() {
+        Checks.sentence("A bundle is a set of inner segments of all routes (forty of them on one line)");
+        // Boxes that reach down to the line y = 20, and between them boxes that must be passed above it.
+        ConnectorRouter x = new ConnectorRouter();
+        for (int i = 0; i < 7; i++) {
+            boolean isAbove = i % 2 == 0;
+            Checks.due("addBox", x.addBox(2 + 10 * i + (isAbove ? 0 : 2), isAbove ? 2 : 15,
+                2 + 10 * i + (isAbove ? 8 : 6), isAbove ? 19 : 40), i);
+        }
+        x.setPenalty(0);
+        for (int i = 0; i < 10; i++) {
+            x.link(0, 2, 5, 6, 2, 5);
+        }
+        Checks.due("routeAll()", x.routeAll(), 10);
+        Checks.dueRoute(x, 9, "M7,19V20H11V14H21V20H31V14H41V20H51V14H61V20H67V19");
+        int[] pulls = {19 + 14 - 40, 14 + 14 - 40, 14 + 14 - 40, 14 + 19 - 40};
+        for (int i = 0; i < 10; i++) {
+            for (int part = 0; part < 4; part++) {
+                int segment = 1 + 4 * part;
+                Checks.due("pull of " + i + ", " + segment, x.lane(i, segment, 0), pulls[part]);
+                Checks.due("lane of " + i + ", " + segment, x.lane(i, segment, 1), i);
+                Checks.due("lanes of " + i + ", " + segment, x.lane(i, segment, 2), 10);
+                Checks.due("place of " + i + ", " + segment, x.lane(i, segment, 3), 400 + (2 * i - 9) * 4);
+            }
+        }
     }
 
     private static void pulls() {
