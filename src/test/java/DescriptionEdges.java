@@ -32,6 +32,7 @@ public final class DescriptionEdges {
         touchedEnds();
         touchedPoints();
         touchedCorner();
+        touchedCornerOfEachKind();
         crossingAtEnds();
         crossingAtCorners();
         sharedLength();
@@ -658,6 +659,35 @@ public final class DescriptionEdges {
         Checks.due("the ends are blocked by their own boxes", y.connector(0, 11), 0);
         y.moveBox(0, 0, 40);
         Checks.due("one end has lost its port", y.connector(0, 11), 1);
+    }
+
+    private static void touchedCornerOfEachKind() {
+        Checks.sentence("or if one of its points is blocked by a box (a corner alone, to whatever side it turns)");
+        // From a box in the middle to the right or left, then down or up to a second box.
+        String[] routes = {"M44,42H62V60", "M44,42H62V24", "M40,42H22V60", "M40,42H22V24"};
+        String[] back = {"M62,60V42H44", "M62,24V42H44", "M22,60V42H40", "M22,24V42H40"};
+        for (int kind = 0; kind < 8; kind++) {
+            int k = kind % 4;
+            boolean isRight = k < 2;
+            boolean isDown = k % 2 == 0;
+            // The box of 2 by 2 that blocks the corner and no other point of the route; then it is 1 farther.
+            int left = isRight ? 62 : 20;
+            int top = isDown ? 40 : 42;
+            for (int away = 0; away < 3; away++) {
+                ConnectorRouter x = Checks.withBox(40, 40, 44, 44);
+                x.addBox(isRight ? 60 : 20, isDown ? 60 : 20, isRight ? 64 : 24, isDown ? 64 : 24);
+                int side = isRight ? 1 : 3;
+                int toSide = isDown ? 0 : 2;
+                Checks.due("link", kind < 4 ? x.link(0, side, 2, 1, toSide, 2) : x.link(1, toSide, 2, 0, side, 2), 0);
+                x.route(0);
+                Checks.dueRoute(x, 0, kind < 4 ? routes[k] : back[k]);
+                int atX = left + (away == 1 ? isRight ? 1 : -1 : 0);
+                int atY = top + (away == 2 ? isDown ? -1 : 1 : 0);
+                Checks.due("addBox", x.addBox(atX, atY, atX + 2, atY + 2), 2);
+                Checks.due("connector(0, 11), kind " + kind + ", away " + away, x.connector(0, 11), away == 0 ? 1 : 0);
+                Checks.due("reroute(), kind " + kind + ", away " + away, x.reroute(), away == 0 ? 1 : 0);
+            }
+        }
     }
 
     // ---- crossings, shared parts

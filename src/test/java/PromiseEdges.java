@@ -22,6 +22,7 @@ public final class PromiseEdges {
         connector();
         route();
         routeAll();
+        routeAllOfOneThatGoesOn();
         reroute();
         refresh();
         best();
@@ -353,6 +354,23 @@ public final class PromiseEdges {
         y.moveBox(2, 0, 1);
         Checks.due("routeAll() with corners that differ by 1", y.routeAll(), 3);
         Checks.dueRoute(y, 1, "M15,20V41");
+    }
+
+    private static void routeAllOfOneThatGoesOn() {
+        Checks.sentence("Promise 12: a route whose corners differ (one begins with all corners of the other)");
+        ConnectorRouter x = Checks.withBox(10, 10, 20, 20);
+        x.addBox(40, 10, 50, 20);
+        x.link(0, 1, 5, 1, 3, 5);
+        Checks.due("routeAll() for the first time", x.routeAll(), 1);
+        Checks.dueRoute(x, 0, "M20,15H40");
+        x.moveBox(1, 1, 20);
+        Checks.due("routeAll() of one that goes on", x.routeAll(), 1);
+        Checks.dueRoute(x, 0, "M20,15H40V35H41");
+        x.moveBox(1, -1, -20);
+        Checks.due("routeAll() of one that ends earlier", x.routeAll(), 1);
+        Checks.dueRoute(x, 0, "M20,15H40");
+        Checks.due("measure(0, 0)", x.measure(0, 0), 20);
+        Checks.due("routeAll() once more", x.routeAll(), 0);
     }
 
     private static void reroute() {
