@@ -14,7 +14,10 @@ import java.util.regex.Matcher;
 import java.util.regex.Pattern;
 import javax.tools.ToolProvider;
 
-/** README.md tells the truth: the answers of its example are the class's own, and its table the document's. */
+/**
+ * README.md tells the truth: the answers of its example and the faults of its texts are the class's own,
+ * and its table of calls is the document's.
+ */
 public final class ReadmeExample {
     private static final Pattern CODES = Pattern.compile("\\b(NONE|BAD_INDEX|BAD_VALUE|BAD_STATE|FULL)\\b");
 
@@ -27,6 +30,7 @@ public final class ReadmeExample {
         example(readme);
         must(answers >= 20, "the example has answers: " + answers);
         table(readme, read(root.resolve("../shared/DOC.md")));
+        faults(readme);
         System.out.println(wrong == 0 ? "README.md is true, with " + answers + " answers" : wrong + " are not true");
         if (wrong != 0) {
             System.exit(1);
@@ -118,6 +122,24 @@ public final class ReadmeExample {
             }
         }
         must(rows.equals(face), "each call has a row: " + rows);
+    }
+
+    // ---- the faults of texts
+
+    private static void faults(String readme) {
+        Matcher row = Pattern.compile("(?m)^\\| `([^`|]*)` \\| (NONE|\\d+) \\|$").matcher(readme);
+        int rows = 0;
+        while (row.find()) {
+            rows++;
+            ConnectorRouter router = new ConnectorRouter();
+            for (char sign : row.group(1).toCharArray()) {
+                router.type(sign);
+            }
+            int want = row.group(2).equals("NONE") ? ConnectorRouter.NONE : Integer.parseInt(row.group(2));
+            int got = router.textFault();
+            must(got == want, row.group() + ", but it answered " + got);
+        }
+        must(rows >= 6, "the faults of texts are told: " + rows);
     }
 
     private static Set<String> codesIn(String text) {
